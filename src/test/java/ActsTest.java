@@ -10,6 +10,7 @@ public final class ActsTest {
         otherGrips();
         undone();
         oldestActIsForgotten();
+        playsAreFull();
         lookedAt();
         refusals();
         images();
@@ -167,6 +168,20 @@ public final class ActsTest {
         x.grip(0, 4);
         Due.is("undo()", x.undo(), 0);
         Due.is("LOW", x.count(3), 0);
+    }
+
+    /** This takes more calls than are promised for one object: no fewer would tell. */
+    private static void playsAreFull() {
+        ClawCase x = Due.read("g0,9,9;b1,1;");
+        for (int i = 1; i <= 9998; i++) {
+            x.play(2);
+        }
+        Due.is("play(2), the last", x.play(2), ClawCase.NONE);
+        Due.is("play(2)", x.play(2), ClawCase.FULL);
+        Due.is("play(6): BAD is ahead of FULL", x.play(6), ClawCase.BAD);
+        Due.is("PLAYS", x.count(2), 9999);
+        Due.is("undo()", x.undo(), 23);
+        Due.is("play(2) anew", x.play(2), ClawCase.NONE);
     }
 
     private static void lookedAt() {

@@ -200,6 +200,10 @@ public final class ForetoldTest {
         // it is BROKEN, then put at 282475249 % 5 + 1 = 5, and is played for there: falls at 4, where nothing lies
         Due.is("drawn(2, 1, 1)", egg.drawn(2, 1, 1), 1);
         Due.is("drawn(2, 1, 0)", egg.drawn(2, 1, 0), 0);
+        // X is 16807 * 999999 % 2147483647 = 1774597664: play at 887298832 % 5 + 1 = 3
+        ClawCase third = Due.read("g9,9,1;b1,3;");
+        Due.is("drawn(1, 999999, 0)", third.drawn(1, 999999, 0), 1);
+        Due.is("drawn(60, 1, 1)", x.drawn(60, 1, 1), 0);
         Due.is("drawn(61, 1, 0)", x.drawn(61, 1, 0), ClawCase.BAD);
         Due.is("drawn(-1, 1, 0)", x.drawn(-1, 1, 0), ClawCase.BAD);
         Due.is("drawn(1, 0, 0)", x.drawn(1, 0, 0), ClawCase.BAD);

@@ -22,23 +22,22 @@ public final class RowsTest {
         Due.is("row(0, 0, -1)", x.row(0, 0, -1), Due.SIZE);
         Due.is("row(8, 0, -1)", x.row(8, 0, -1), ClawCase.BAD);
         Due.is("row(0, 0, least)", x.row(0, 0, Integer.MIN_VALUE), Due.SIZE);
-        x.row(1, 2, 3);
-        x.set(1, 2, 77);
-        Due.is("row(1, 2, -1)", x.row(1, 2, -1), Due.SIZE);
-        x.row(2, 2, 3);
-        x.copy(1, 2, 2, 0, 1);
-        Due.is("a row that SIZE left has its items", fitsAs(x, 2, 77), 1);
-        Due.is("row(1, 2, 3) anew", x.row(1, 2, 3), 3);
-        Due.is("its items are 0", fitsAs(x, 1, 0), 1);
+        rowsAreMadeAnew();
     }
 
-    /** 1 if item 0 of a row of ints is v: that is seen by copying to where a toy's place is told. */
-    private static int fitsAs(ClawCase x, int row, int v) {
-        // a toy that is WON fits 0 alone; so the item is told by it only for 0
-        Due.tell(x, "g9,9,1;b1,1;");
-        x.play(1);
-        int fits = x.fits(0, row, 0, 1, 0);
-        return v == 0 ? (fits == 62 ? 1 : 0) : (fits == 0 ? 1 : 0);
+    /** Items are seen by fits(): the bear of column 1 stays there, so an item fits if it is 1. */
+    private static void rowsAreMadeAnew() {
+        ClawCase x = Due.read("g0,0,1;b9,1;");
+        x.row(1, 2, 3);
+        x.set(1, 2, 1);
+        Due.is("row(1, 2, -1)", x.row(1, 2, -1), Due.SIZE);
+        Due.is("row(1, 2, 41)", x.row(1, 2, 41), ClawCase.BAD);
+        Due.is("the row has its item yet", x.fits(0, 1, 2, 1, 0), 62);
+        Due.is("row(1, 0, 3)", x.row(1, 0, 3), 3);
+        Due.is("its item is 1 no more", x.fits(0, 1, 2, 1, 0), 0);
+        Due.is("its lane is another", x.set(1, 0, 128), -128);
+        x.grip(1, 9);
+        Due.is("its item is 0", x.fits(0, 1, 2, 1, 1), 1022);
     }
 
     private static void itemsAreCut() {
@@ -87,7 +86,7 @@ public final class RowsTest {
         copiesOverlap();
     }
 
-    /** Toy 0 is WON by the first play, so a row of 0 0 0 .. alone fits; 5 elsewhere tells the items apart. */
+    /** As above: a row of 1 1 .. alone fits. */
     private static void copiesOverlap() {
         ClawCase x = Due.read("g0,0,1;b1,1;b1,2;");
         x.row(0, 2, 4);
