@@ -1,13 +1,47 @@
 import java.lang.reflect.Method;
 import java.util.ArrayList;
 import java.util.Comparator;
+import java.util.HashMap;
 import java.util.List;
+import java.util.Map;
 import java.util.Random;
 
 /** All promises: runs of calls by fixed seeds, on the class and on Model; both answer the same. */
 public final class ModelTest {
     private static final int RUNS = 400, CALLS = 512;
     private static final int[] ODD = {-2, -1, 41, 256, 1000000, Integer.MAX_VALUE, Integer.MIN_VALUE};
+
+    /** Of each call the least and the most of each of its numbers. */
+    private static final Map<String, int[]> TOLD = new HashMap<>();
+
+    static {
+        TOLD.put("row", new int[] {0, 7, 0, 2, 0, 40});
+        TOLD.put("set", new int[] {0, 7, 0, 12, -70000, 70000});
+        TOLD.put("copy", new int[] {0, 7, 0, 8, 0, 7, 0, 8, 0, 8});
+        TOLD.put("drop", new int[] {0, 7});
+        TOLD.put("feed", new int[] {0, 255});
+        TOLD.put("play", new int[] {1, 5});
+        TOLD.put("put", new int[] {0, 6, 1, 5});
+        TOLD.put("grip", new int[] {0, 1, 0, 9});
+        TOLD.put("toy", new int[] {0, 6, 0, 4});
+        TOLD.put("column", new int[] {1, 5, 0, 2});
+        TOLD.put("gives", new int[] {1, 5});
+        TOLD.put("grips", new int[] {0, 60});
+        TOLD.put("win", new int[] {0, 6, -1, 4});
+        TOLD.put("haul", new int[] {1, 4, -1, 4});
+        TOLD.put("enough", new int[] {1, 5});
+        TOLD.put("share", new int[] {0, 6, 0, 999});
+        TOLD.put("fits", new int[] {0, 6, 0, 7, 0, 12, 1, 12, 0, 3});
+        TOLD.put("chance", new int[] {0, 6, 1, 5, 0, 8, 0, 10, 0, 1});
+        TOLD.put("drawn", new int[] {0, 60, 1, 999999, 0, 1});
+        TOLD.put("image", new int[] {0, 1});
+        TOLD.put("restore", new int[] {0, 1});
+        TOLD.put("kind", new int[] {0, 6});
+        TOLD.put("as", new int[] {0, 6, 0, 5});
+        TOLD.put("ask", new int[] {0, 6, 0, 1});
+        TOLD.put("trace", new int[] {0, 6});
+        TOLD.put("count", new int[] {0, 9});
+    }
 
     private final Random random;
     private final List<Method> calls = new ArrayList<>();
@@ -45,36 +79,33 @@ public final class ModelTest {
             tell();
         }
         while (made < CALLS) {
-            int turn = random.nextInt(40);
+            int turn = random.nextInt(120);
             if (turn == 0 && CALLS - made > 100) {
                 tell();
             } else if (turn < 3) {
                 tellPlacesAndAsk(seed);
-            } else if (turn < 18) {
+            } else if (turn < 30) {
                 both(seed, "play", 1 + random.nextInt(5));
+            } else if (turn < 45) {
+                both(seed, "put", random.nextInt(7), 1 + random.nextInt(5));
             } else {
                 any(seed);
             }
         }
     }
 
+    /** Each number mostly as the document tells it, sometimes the one beside its least or its most, or an odd one. */
     private void any(int seed) throws ReflectiveOperationException {
         Method m = calls.get(random.nextInt(calls.size()));
+        int[] told = TOLD.get(m.getName());
         int[] numbers = new int[m.getParameterCount()];
         for (int i = 0; i < numbers.length; i++) {
-            int turn = random.nextInt(30);
+            int least = told[2 * i];
+            int most = told[2 * i + 1];
+            int turn = random.nextInt(80);
             numbers[i] = turn == 0 ? ODD[random.nextInt(ODD.length)]
-                : turn < 5 ? random.nextInt(14) - 1 : random.nextInt(turn < 12 ? 6 : 4);
-        }
-        if (m.getName().equals("row") && numbers[2] >= 0) {
-            numbers[2] *= 4;
-        }
-        if (m.getName().equals("drawn") && random.nextBoolean()) {
-            numbers[0] = random.nextInt(62);
-            numbers[1] = random.nextInt(1000001);
-        }
-        if (m.getName().equals("share") && random.nextBoolean()) {
-            numbers[1] = random.nextInt(1001);
+                : turn == 1 ? least - 1 : turn == 2 ? most + 1
+                : turn == 3 ? least : turn == 4 ? most : least + random.nextInt(most - least + 1);
         }
         both(seed, m.getName(), numbers);
     }
